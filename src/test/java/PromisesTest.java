@@ -1,42 +1,33 @@
-/** Each promise of the document by hand: ordinary inputs, the edges that it names, wrong inputs. */
-public final class PromisesTest {
-    private static final int LEAST = Integer.MIN_VALUE;
-    private static final int GREATEST = Integer.MAX_VALUE;
-    private static int wrong = 0;
-    private static String promise = "";
-
+/** Each promise of the document by hand, as it is used; its edges are in PromiseEdgesTest and TermsEdgesTest. */
+public final class PromisesTest extends Checks {
     public static void main(String[] args) {
-        aNewObject();
-        type();
-        end();
-        score();
-        gaps();
-        settings();
-        words();
-        pair();
-        distanceByMerge();
-        distanceByTuples();
-        align();
-        treeOfAverages();
-        treeOfNeighbours();
-        columns();
-        at();
-        bestMergeAmongEquals();
-        mark();
-        child();
-        worth();
-        weight();
-        total();
-        refine();
-        polish();
-        System.out.println(wrong == 0 ? "all promises are kept" : wrong + " answers are not as due");
-        if (wrong != 0) {
-            System.exit(1);
-        }
+        sentence("promise 1", PromisesTest::aNewObject);
+        sentence("promise 2", PromisesTest::type);
+        sentence("promise 3", PromisesTest::end);
+        sentence("promise 4", PromisesTest::score);
+        sentence("promise 5", PromisesTest::gaps);
+        sentence("promise 6", PromisesTest::settings);
+        sentence("promise 7", PromisesTest::words);
+        sentence("promise 8", PromisesTest::pair);
+        sentence("promise 9", PromisesTest::distanceByMerge);
+        sentence("promise 9", PromisesTest::distanceByTuples);
+        sentence("promise 10", PromisesTest::align);
+        sentence("promise 10, the tree", PromisesTest::treeOfAverages);
+        sentence("promise 10, the tree", PromisesTest::treeOfNeighbours);
+        sentence("promise 11", PromisesTest::columns);
+        sentence("promise 12", PromisesTest::at);
+        sentence("promise 10, the best merge", PromisesTest::bestMergeAmongEquals);
+        sentence("promise 13", PromisesTest::mark);
+        sentence("promise 14", PromisesTest::child);
+        sentence("promise 15", PromisesTest::worth);
+        sentence("promise 16", PromisesTest::weight);
+        sentence("promise 17", PromisesTest::total);
+        sentence("promise 18", PromisesTest::refine);
+        sentence("promise 19", PromisesTest::polish);
+        finish();
     }
 
     private static void aNewObject() {
-        promise = "1";
         GuidedAligner x = new GuidedAligner();
         same("words", x.words(), 0);
         same("columns", x.columns(), 0);
@@ -55,12 +46,9 @@ public final class PromisesTest {
     }
 
     private static void type() {
-        promise = "2";
         GuidedAligner x = new GuidedAligner();
-        for (int c = 0; c <= 0xFFFF; c++) {
-            if (c != 'A' && c != 'C' && c != 'G' && c != 'T') {
-                same("type " + c, x.type((char) c), false);
-            }
+        for (char c : "acgtBU- *0\n\u0141\uFF21".toCharArray()) {
+            same("type " + (int) c, x.type(c), false);
         }
         same("nothing was typed", x.end(), -1);
         for (char c : "TGCATGCATGCA".toCharArray()) {
@@ -81,7 +69,6 @@ public final class PromisesTest {
     }
 
     private static void end() {
-        promise = "3";
         GuidedAligner x = new GuidedAligner();
         for (int n = 0; n < 5; n++) {
             x.type('A');
@@ -111,7 +98,6 @@ public final class PromisesTest {
     }
 
     private static void score() {
-        promise = "4";
         GuidedAligner x = with("A", "C");
         same("to 20", x.score(0, 1, 20), true);
         same("20", x.pair(0, 1), 20);
@@ -150,7 +136,6 @@ public final class PromisesTest {
     }
 
     private static void gaps() {
-        promise = "5";
         GuidedAligner x = with("AAAA", "A");
         same("gaps", x.gaps(3, 2), true);
         same("3 and 2", x.pair(0, 1), 5 - 3 - 6);
@@ -170,7 +155,6 @@ public final class PromisesTest {
     }
 
     private static void settings() {
-        promise = "6";
         GuidedAligner x = with("AAAA", "AAAA", "CCCC");
         x.align();
         same("WEIGHING off at first", x.weight(2), 1);
@@ -195,7 +179,6 @@ public final class PromisesTest {
     }
 
     private static void words() {
-        promise = "7";
         same("three", with("A", "C", "ACGTACGTACGT").words(), 3);
         GuidedAligner x = with("A");
         x.type('C');
@@ -205,7 +188,6 @@ public final class PromisesTest {
     }
 
     private static void pair() {
-        promise = "8";
         GuidedAligner x = with("ACGTACGT", "ACGACGT", "A");
         same("one gap", x.pair(0, 1), 7 * 5 - 11);
         same("exchanged", x.pair(1, 0), 7 * 5 - 11);
@@ -227,7 +209,6 @@ public final class PromisesTest {
     }
 
     private static void distanceByMerge() {
-        promise = "9";
         GuidedAligner x = with("AAA", "ACC", "AAC", "A");
         same("one of three, rounded down", x.distance(0, 1), 1000 - 333);
         same("two of three, rounded down", x.distance(0, 2), 1000 - 666);
@@ -258,7 +239,6 @@ public final class PromisesTest {
     }
 
     private static void distanceByTuples() {
-        promise = "9";
         GuidedAligner x = with("AAAA", "AAA", "CAAC", "A", "ACAC", "T");
         x.settings(true, false, false);
         same("the lesser number of AA", x.distance(0, 1), 0);
@@ -275,7 +255,6 @@ public final class PromisesTest {
     }
 
     private static void align() {
-        promise = "10";
         same("no word", new GuidedAligner().align(), -1);
         GuidedAligner x = with("ACGT");
         same("one word", x.align(), 4);
@@ -306,7 +285,6 @@ public final class PromisesTest {
     }
 
     private static void treeOfAverages() {
-        promise = "10, the tree";
         // All distances 0: the lesser left child first, then the lesser right child.
         treeIs(with("A", "A", "A", "A", "A"), "0,1 2,3 4,5 6,7");
         treeIs(with("AAAA", "CCCC", "AAAA", "GGGG"), "0,2 1,3 4,5");
@@ -326,7 +304,6 @@ public final class PromisesTest {
     }
 
     private static void treeOfNeighbours() {
-        promise = "10, the tree";
         GuidedAligner x = longBranches();
         x.settings(false, true, false);
         // 0 with 1 and 2 with 3 have 8 * (2 * 417 - 1167 - 1667), all others more; then all pairs are equal.
@@ -353,15 +330,10 @@ public final class PromisesTest {
 
     private static void treeIs(GuidedAligner x, String want) {
         x.align();
-        StringBuilder text = new StringBuilder();
-        for (int node = x.words(); node < 2 * x.words() - 1; node++) {
-            text.append(text.length() == 0 ? "" : " ").append(x.child(node, 0)).append(',').append(x.child(node, 1));
-        }
-        text("tree", text.toString(), want);
+        text("tree", tree(x), want);
     }
 
     private static void columns() {
-        promise = "11";
         GuidedAligner x = with("ACGT", "AT");
         same("no layout yet", x.columns(), 0);
         x.align();
@@ -375,7 +347,6 @@ public final class PromisesTest {
     }
 
     private static void at() {
-        promise = "12";
         GuidedAligner x = with("ACGT", "AT");
         same("no layout yet", x.at(0, 0), ' ');
         x.align();
@@ -393,7 +364,6 @@ public final class PromisesTest {
     }
 
     private static void bestMergeAmongEquals() {
-        promise = "10, the best merge";
         GuidedAligner x = with("AA", "A");
         x.align();
         text("BOTH rather than LEFT", rows(x), "AA A-");
@@ -418,7 +388,6 @@ public final class PromisesTest {
     }
 
     private static void mark() {
-        promise = "13";
         GuidedAligner x = with("AACA", "AACC", "AGGC", "AGTG");
         x.gaps(20, 20);
         same("no layout yet", x.mark(0), ' ');
@@ -461,7 +430,6 @@ public final class PromisesTest {
     }
 
     private static void child() {
-        promise = "14";
         GuidedAligner x = with("CCCC", "AAAA", "AAAA");
         same("no tree yet", x.child(3, 0), -1);
         x.align();
@@ -483,7 +451,6 @@ public final class PromisesTest {
     }
 
     private static void worth() {
-        promise = "15";
         GuidedAligner x = with("AAAA", "AAAA", "CCCC");
         same("no tree yet", x.worth(3), 0);
         x.align();
@@ -506,7 +473,6 @@ public final class PromisesTest {
     }
 
     private static void weight() {
-        promise = "16";
         GuidedAligner x = with("AAAAAAAAAA", "AAAAAAAAAA", "AAAAACCCCC", "GGGGGGGGGG");
         x.settings(false, false, true);
         same("no tree yet", x.weight(0), 0);
@@ -546,7 +512,6 @@ public final class PromisesTest {
     }
 
     private static void total() {
-        promise = "17";
         GuidedAligner x = with("ACTGT", "AT", "ACGT");
         same("no layout yet", x.total(), 0);
         x.align();
@@ -570,7 +535,6 @@ public final class PromisesTest {
     }
 
     private static void refine() {
-        promise = "18";
         GuidedAligner x = with("AAG", "CG", "CGG");
         same("no layout", x.refine(1), false);
         x.align();
@@ -608,7 +572,6 @@ public final class PromisesTest {
     }
 
     private static void polish() {
-        promise = "19";
         same("no words", new GuidedAligner().polish(), -1);
         GuidedAligner x = with("AAG", "CG", "CGG");
         same("no layout", x.polish(), -1);
@@ -638,64 +601,5 @@ public final class PromisesTest {
         text("as by hand", rows(y), rows(byHand));
         y.settings(true, true, true);
         same("layout gone", y.polish(), -1);
-    }
-
-    private static void noLayout(GuidedAligner x) {
-        same("no columns", x.columns(), 0);
-        same("no row", x.at(0, 0), ' ');
-        same("no mark", x.mark(0), ' ');
-        same("no weight", x.weight(0), 0);
-        same("no total", x.total(), 0);
-        same("nothing to refine", x.refine(0), false);
-        same("nothing to polish", x.polish(), -1);
-        for (int node = -1; node < 10; node++) {
-            same("no children", x.child(node, 0), -1);
-            same("no worth", x.worth(node), 0);
-        }
-    }
-
-    private static GuidedAligner with(String... words) {
-        GuidedAligner x = new GuidedAligner();
-        for (String word : words) {
-            for (char c : word.toCharArray()) {
-                x.type(c);
-            }
-            x.end();
-        }
-        return x;
-    }
-
-    private static String rows(GuidedAligner x) {
-        StringBuilder text = new StringBuilder();
-        for (int i = 0; i < x.words(); i++) {
-            text.append(i == 0 ? "" : " ");
-            for (int k = 0; k < x.columns(); k++) {
-                text.append(x.at(i, k));
-            }
-        }
-        return text.toString();
-    }
-
-    private static String marks(GuidedAligner x) {
-        StringBuilder text = new StringBuilder();
-        for (int k = 0; k < x.columns(); k++) {
-            text.append(x.mark(k));
-        }
-        return text.toString();
-    }
-
-    private static void same(String what, boolean got, boolean want) {
-        text(what, "" + got, "" + want);
-    }
-
-    private static void same(String what, int got, int want) {
-        text(what, "" + got, "" + want);
-    }
-
-    private static void text(String what, String got, String want) {
-        if (!got.equals(want)) {
-            wrong++;
-            System.out.println("promise " + promise + ", " + what + ": got '" + got + "', due is '" + want + "'");
-        }
     }
 }

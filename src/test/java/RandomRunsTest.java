@@ -2,8 +2,10 @@ import java.util.Random;
 
 /** Long runs of calls, always the same ones, on a GuidedAligner and on the Oracle: every answer must agree. */
 public final class RandomRunsTest {
-    private static final int RUNS = 300;
-    private static final int CALLS = 60;
+    private static final int RUNS = 1000;
+    // What an object answers after so many calls is not promised.
+    private static final int MOST_CALLS = 512;
+    private static final int MOST_CALLS_FOR_A_WORD = 13;
     private static int wrong = 0;
 
     private final int run;
@@ -15,6 +17,7 @@ public final class RandomRunsTest {
     private final int scoreSpan;
     private final int gapSpan;
     private final StringBuilder story = new StringBuilder();
+    private int calls = 0;
 
     private RandomRunsTest(int run) {
         this.run = run;
@@ -31,7 +34,7 @@ public final class RandomRunsTest {
         for (int run = 0; run < RUNS && wrong == 0; run++) {
             refined += new RandomRunsTest(run).go();
         }
-        if (refined < 100) {
+        if (refined < 500) {
             wrong++;
             System.out.println("too few rows were refined for a test: " + refined);
         }
@@ -50,10 +53,17 @@ public final class RandomRunsTest {
         for (int n = random.nextInt(6); n > 0; n--) {
             newWord();
         }
-        compareAll();
-        for (int call = 0; call < CALLS && wrong == 0; call++) {
+        while (calls + MOST_CALLS_FOR_A_WORD <= MOST_CALLS && wrong == 0) {
             refined += oneCall();
-            compareAll();
+            if (random.nextInt(4) == 0) {
+                compareLayout();
+            }
+            for (int n = random.nextInt(6); n > 0 && calls < MOST_CALLS; n--) {
+                ask();
+            }
+        }
+        while (calls < MOST_CALLS && wrong == 0) {
+            ask();
         }
         return refined;
     }
@@ -117,34 +127,52 @@ public final class RandomRunsTest {
         boolean t = random.nextBoolean();
         boolean n = random.nextInt(3) == 0;
         boolean w = random.nextBoolean();
+        calls++;
         story.append("settings ").append(t).append(n).append(w).append('\n');
         given.settings(t, n, w);
         due.settings(t, n, w);
     }
 
-    private void compareAll() {
-        check("words", given.words(), due.words());
-        check("columns", given.columns(), due.columns());
-        check("total", given.total(), due.total());
-        for (int i = -1; i <= 5; i++) {
-            check("weight " + i, given.weight(i), due.weight(i));
-            for (int k = -1; k <= due.columns(); k++) {
+    private void ask() {
+        int i = random.nextInt(7) - 1;
+        int j = random.nextInt(7) - 1;
+        int k = random.nextInt(due.columns() + 2) - 1;
+        int node = random.nextInt(11) - 1;
+        int which = random.nextInt(4) - 1;
+        switch (random.nextInt(12)) {
+            case 0 -> check("words", given.words(), due.words());
+            case 1 -> check("columns", given.columns(), due.columns());
+            case 2, 3 -> check("total", given.total(), due.total());
+            case 4 -> check("weight " + i, given.weight(i), due.weight(i));
+            case 5 -> check("pair " + i + " " + j, given.pair(i, j), due.pair(i, j));
+            case 6, 7 -> check("distance " + i + " " + j, given.distance(i, j), due.distance(i, j));
+            case 8 -> check("at " + i + " " + k, given.at(i, k), due.at(i, k));
+            case 9 -> check("mark " + k, given.mark(k), due.mark(k));
+            case 10 -> check("worth " + node, given.worth(node), due.worth(node));
+            default -> check("child " + node + " " + which, given.child(node, which), due.child(node, which));
+        }
+    }
+
+    private void compareLayout() {
+        int columns = due.columns();
+        int words = due.words();
+        int needed = columns * (words + 1) + 5 * words;
+        if (columns == 0 || calls + needed > MOST_CALLS) {
+            return;
+        }
+        for (int k = 0; k < columns; k++) {
+            check("mark " + k, given.mark(k), due.mark(k));
+            for (int i = 0; i < words; i++) {
                 check("at " + i + " " + k, given.at(i, k), due.at(i, k));
             }
         }
-        for (int i = -1; i <= 5; i++) {
-            int j = random.nextInt(7) - 1;
-            check("pair " + i + " " + j, given.pair(i, j), due.pair(i, j));
-            check("distance " + i + " " + j, given.distance(i, j), due.distance(i, j));
+        for (int i = 0; i < words; i++) {
+            check("weight " + i, given.weight(i), due.weight(i));
         }
-        for (int k = -1; k <= due.columns(); k++) {
-            check("mark " + k, given.mark(k), due.mark(k));
-        }
-        for (int node = -1; node <= 9; node++) {
+        for (int node = words; node < 2 * words - 1; node++) {
             check("worth " + node, given.worth(node), due.worth(node));
-            for (int which = -1; which <= 2; which++) {
-                check("child " + node + " " + which, given.child(node, which), due.child(node, which));
-            }
+            check("child " + node + " 0", given.child(node, 0), due.child(node, 0));
+            check("child " + node + " 1", given.child(node, 1), due.child(node, 1));
         }
     }
 
@@ -153,6 +181,7 @@ public final class RandomRunsTest {
     }
 
     private void check(String call, int got, int want) {
+        calls++;
         if (!call.startsWith("at ") && !call.startsWith("child ") && !call.startsWith("mark ")) {
             story.append(call).append(" -> ").append(want).append('\n');
         }
